@@ -22,6 +22,10 @@ final class Check {
         }
     }
 
+    static boolean allRight() {
+        return wrong == 0;
+    }
+
     static void end() {
         System.out.println(checks + " checks, " + wrong + " wrong");
         if (wrong != 0 || checks == 0) {

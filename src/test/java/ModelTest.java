@@ -28,7 +28,8 @@ public final class ModelTest {
     }
 
     public static void main(String[] args) {
-        for (int run = 0; run < RUNS; run++) {
+        // After a wrong answer the runs that follow would only bury it.
+        for (int run = 0; run < RUNS && Check.allRight(); run++) {
             ModelTest test = new ModelTest(run);
             for (int call = 1; call <= CALLS; call++) {
                 test.step("run " + run + ", call " + call + ": ");
