@@ -2,15 +2,32 @@
 final class Check {
     private static int checks = 0;
     private static int wrong = 0;
+    private static String about = "";
 
     private Check() {
+    }
+
+    /**
+     * Runs the test of one sentence of the document, which is told with each check that fails. A
+     * call that throws is a wrong answer like any other, and the sentences that follow are tested.
+     */
+    static void sentence(String quoted, Runnable test) {
+        about = quoted + " | ";
+        int before = checks;
+        try {
+            test.run();
+        } catch (RuntimeException thrown) {
+            holds("no call throws, but one threw " + thrown, false);
+        }
+        holds("the test makes a check", checks > before);
+        about = "";
     }
 
     static void due(String what, long got, long want) {
         checks++;
         if (got != want) {
             wrong++;
-            System.out.println(what + " answered " + got + ", due is " + want);
+            System.out.println(about + what + " answered " + got + ", due is " + want);
         }
     }
 
@@ -18,7 +35,7 @@ final class Check {
         checks++;
         if (!held) {
             wrong++;
-            System.out.println("does not hold: " + what);
+            System.out.println(about + "does not hold: " + what);
         }
     }
 

@@ -1,8 +1,8 @@
 /** One method for each promise of the document: ordinary inputs, edges, wrong inputs. */
 public final class PromisesTest {
-    private static final int MIN = Integer.MIN_VALUE;
-    private static final int MAX = Integer.MAX_VALUE;
-    private static final int CAPACITY = 48;
+    private static final int MIN = Maps.MIN;
+    private static final int MAX = Maps.MAX;
+    private static final int CAPACITY = Maps.CAPACITY;
 
     public static void main(String[] args) {
         promise1NewObject();
@@ -26,28 +26,11 @@ public final class PromisesTest {
         Check.end();
     }
 
-    /** Keys 10, 20, .., n * 10, put in a mixed order; each value is the key times 100. */
-    private static RedBlackMap tens(int n) {
-        RedBlackMap map = new RedBlackMap();
-        for (int i = n; i >= 1; i -= 2) {
-            map.put(i * 10, i * 1000);
-        }
-        for (int i = n % 2 == 0 ? 1 : 2; i <= n; i += 2) {
-            map.put(i * 10, i * 1000);
-        }
-        return map;
-    }
-
     private static void dueEntries(String when, RedBlackMap map, int... keys) {
         Check.due(when + ": number of entries", map.count(MIN, MAX), keys.length);
         for (int i = 0; i < keys.length; i++) {
             Check.due(when + ": place(" + keys[i] + ")", map.place(keys[i]), i);
         }
-    }
-
-    private static void dueAtEnd(String when, RedBlackMap map) {
-        Check.due(when + ": next()", map.next(), -1);
-        Check.due(when + ": key()", map.key(), 0);
     }
 
     private static void promise1NewObject() {
@@ -114,14 +97,14 @@ public final class PromisesTest {
         Check.due("2: full, get(480)", map.get(480), 6);
         Check.due("2: full, back at the end", map.seek(MAX), CAPACITY);
         Check.due("2: full, put(481) with the cursor at the end", map.put(481, 9), -1);
-        dueAtEnd("2: full", map);
+        Maps.dueAtEnd("2: full", map);
         map.remove(200);
         Check.due("2: room again, put(15)", map.put(15, 9), 1);
         Check.due("2: full again, put(16)", map.put(16, 9), -1);
     }
 
     private static void promise2PutLeavesTheCursor() {
-        RedBlackMap map = tens(3);
+        RedBlackMap map = Maps.tens(3);
         map.seek(20);
         map.put(15, 1);
         Check.due("2: entry added just before the cursor", map.key(), 20);
@@ -135,17 +118,17 @@ public final class PromisesTest {
         map.jump(-1);
         map.put(12, 1);
         map.put(MAX - 1, 1);
-        dueAtEnd("2: entries added while at the end", map);
+        Maps.dueAtEnd("2: entries added while at the end", map);
         map.remove(MAX);
         map.remove(MAX - 1);
         map.put(MAX, 1);
-        dueAtEnd("2: a last entry added while at the end", map);
+        Maps.dueAtEnd("2: a last entry added while at the end", map);
         map.back();
         Check.due("2: back() to the last entry", map.key(), MAX);
     }
 
     private static void promise3Remove() {
-        RedBlackMap map = tens(7);
+        RedBlackMap map = Maps.tens(7);
         Check.due("3: remove(45)", map.remove(45), 0);
         Check.due("3: remove(least)", map.remove(MIN), 0);
         Check.due("3: remove(greatest)", map.remove(MAX), 0);
@@ -171,7 +154,7 @@ public final class PromisesTest {
     }
 
     private static void promise3RemoveAndTheCursor() {
-        RedBlackMap map = tens(6);
+        RedBlackMap map = Maps.tens(6);
         map.seek(30);
         map.remove(30);
         Check.due("3: entry at the cursor removed", map.key(), 40);
@@ -186,17 +169,17 @@ public final class PromisesTest {
         map.next();
         Check.due("3: at the last entry", map.key(), 60);
         map.remove(60);
-        dueAtEnd("3: last entry removed at the cursor", map);
+        Maps.dueAtEnd("3: last entry removed at the cursor", map);
         map.put(70, 7);
         map.remove(40);
-        dueAtEnd("3: first entry removed while at the end", map);
+        Maps.dueAtEnd("3: first entry removed while at the end", map);
         map.remove(70);
-        dueAtEnd("3: only entry removed while at the end", map);
+        Maps.dueAtEnd("3: only entry removed while at the end", map);
         Check.due("3: back() without entries", map.back(), -1);
     }
 
     private static void promise4Get() {
-        RedBlackMap map = tens(5);
+        RedBlackMap map = Maps.tens(5);
         for (int i = 1; i <= 5; i++) {
             Check.due("4: get(" + i * 10 + ")", map.get(i * 10), i * 1000);
             Check.due("4: get(" + (i * 10 + 1) + ")", map.get(i * 10 + 1), 0);
@@ -220,7 +203,7 @@ public final class PromisesTest {
     }
 
     private static void promise5Place() {
-        RedBlackMap map = tens(5);
+        RedBlackMap map = Maps.tens(5);
         dueEntries("5", map, 10, 20, 30, 40, 50);
         Check.due("5: place(9)", map.place(9), -1);
         Check.due("5: place(25)", map.place(25), -1);
@@ -234,11 +217,11 @@ public final class PromisesTest {
         map.seek(30);
         map.place(10);
         Check.due("5: place() leaves the cursor", map.key(), 30);
-        Check.due("5: full, last place", tens(CAPACITY).place(480), 47);
+        Check.due("5: full, last place", Maps.tens(CAPACITY).place(480), 47);
     }
 
     private static void promise6Count() {
-        RedBlackMap map = tens(5);
+        RedBlackMap map = Maps.tens(5);
         Check.due("6: count(20, 40)", map.count(20, 40), 3);
         Check.due("6: count(19, 41)", map.count(19, 41), 3);
         Check.due("6: count(21, 39)", map.count(21, 39), 1);
@@ -260,11 +243,11 @@ public final class PromisesTest {
         map.seek(30);
         map.count(10, 50);
         Check.due("6: count() leaves the cursor", map.key(), 30);
-        Check.due("6: full", tens(CAPACITY).count(10, 480), 48);
+        Check.due("6: full", Maps.tens(CAPACITY).count(10, 480), 48);
     }
 
     private static void promise7Sum() {
-        RedBlackMap map = tens(5);
+        RedBlackMap map = Maps.tens(5);
         Check.due("7: sum(20, 40)", map.sum(20, 40), 9000);
         Check.due("7: sum(19, 41)", map.sum(19, 41), 9000);
         Check.due("7: sum(21, 39)", map.sum(21, 39), 3000);
@@ -297,7 +280,7 @@ public final class PromisesTest {
     }
 
     private static void promise8RemoveAll() {
-        RedBlackMap map = tens(9);
+        RedBlackMap map = Maps.tens(9);
         Check.due("8: removeAll(60, 40)", map.removeAll(60, 40), 0);
         Check.due("8: removeAll(greatest, least)", map.removeAll(MAX, MIN), 0);
         Check.due("8: removeAll(41, 49)", map.removeAll(41, 49), 0);
@@ -321,7 +304,7 @@ public final class PromisesTest {
         Check.due("8: count(all)", map.count(MIN, MAX), 0);
         Check.due("8: removeAll(all) again", map.removeAll(MIN, MAX), 0);
 
-        RedBlackMap full = tens(CAPACITY);
+        RedBlackMap full = Maps.tens(CAPACITY);
         Check.due("8: full, removeAll(all)", full.removeAll(10, 480), 48);
         for (int i = 0; i < CAPACITY; i++) {
             Check.due("8: room after removeAll", full.put(i, i), 1);
@@ -348,18 +331,18 @@ public final class PromisesTest {
     }
 
     private static void dueKeyAfterRemoveAll(int start, int low, int high, int want) {
-        RedBlackMap map = tens(9);
+        RedBlackMap map = Maps.tens(9);
         map.seek(start);
         map.removeAll(low, high);
         String when = "8: at " + start + ", removeAll(" + low + ", " + high + ")";
         Check.due(when + ", key()", map.key(), want);
         if (want == 0) {
-            dueAtEnd(when, map);
+            Maps.dueAtEnd(when, map);
         }
     }
 
     private static void promise9Seek() {
-        RedBlackMap map = tens(5);
+        RedBlackMap map = Maps.tens(5);
         dueSeek(map, 30, 2, 30);
         dueSeek(map, 31, 3, 40);
         dueSeek(map, 29, 2, 30);
@@ -367,10 +350,10 @@ public final class PromisesTest {
         dueSeek(map, MIN, 0, 10);
         dueSeek(map, 50, 4, 50);
         dueSeek(map, 51, 5, 0);
-        dueAtEnd("9: seek(51)", map);
+        Maps.dueAtEnd("9: seek(51)", map);
         dueSeek(map, 0, 0, 10);
         dueSeek(map, MAX, 5, 0);
-        dueAtEnd("9: seek(greatest)", map);
+        Maps.dueAtEnd("9: seek(greatest)", map);
         map.put(MAX, 1);
         map.put(MIN, 1);
         dueSeek(map, MAX, 6, MAX);
@@ -386,7 +369,7 @@ public final class PromisesTest {
     }
 
     private static void promise10Jump() {
-        RedBlackMap map = tens(5);
+        RedBlackMap map = Maps.tens(5);
         for (int i = 4; i >= 0; i--) {
             Check.due("10: jump(" + i + ")", map.jump(i), 1);
             Check.due("10: key() after jump(" + i + ")", map.key(), (i + 1) * 10);
@@ -394,20 +377,20 @@ public final class PromisesTest {
         for (int place : new int[] {5, -1, 6, 47, 48, 49, MIN, MAX}) {
             map.jump(2);
             Check.due("10: jump(" + place + ")", map.jump(place), 0);
-            dueAtEnd("10: jump(" + place + ")", map);
+            Maps.dueAtEnd("10: jump(" + place + ")", map);
         }
         map.back();
         Check.due("10: the end is behind the last entry", map.key(), 50);
 
-        RedBlackMap full = tens(CAPACITY);
+        RedBlackMap full = Maps.tens(CAPACITY);
         Check.due("10: full, jump(47)", full.jump(47), 1);
         Check.due("10: full, key()", full.key(), 480);
         Check.due("10: full, jump(48)", full.jump(48), 0);
-        dueAtEnd("10: full, jump(48)", full);
+        Maps.dueAtEnd("10: full, jump(48)", full);
     }
 
     private static void promise11Next() {
-        RedBlackMap map = tens(CAPACITY);
+        RedBlackMap map = Maps.tens(CAPACITY);
         map.jump(0);
         for (int i = 1; i < CAPACITY; i++) {
             Check.due("11: next() to place " + i, map.next(), 1);
@@ -422,7 +405,7 @@ public final class PromisesTest {
     }
 
     private static void promise12Back() {
-        RedBlackMap map = tens(CAPACITY);
+        RedBlackMap map = Maps.tens(CAPACITY);
         map.jump(-1);
         for (int i = CAPACITY; i >= 1; i--) {
             Check.due("12: back() to key " + i * 10, map.back(), 1);
@@ -464,7 +447,7 @@ public final class PromisesTest {
     }
 
     private static void promise14Set() {
-        RedBlackMap map = tens(3);
+        RedBlackMap map = Maps.tens(3);
         Check.due("14: set(7) at the end", map.set(7), 0);
         Check.due("14: sum after set at the end", map.sum(MIN, MAX), 6000);
         Check.due("14: set at the end adds nothing", map.count(MIN, MAX), 3);
@@ -487,7 +470,7 @@ public final class PromisesTest {
         map.put(30, 5);
         Check.due("14: a new entry keeps its own value", map.get(30), 5);
 
-        RedBlackMap full = tens(CAPACITY);
+        RedBlackMap full = Maps.tens(CAPACITY);
         Check.due("14: full, set at the end", full.set(1), 0);
         full.back();
         Check.due("14: full, set at the last", full.set(1), 48000);
