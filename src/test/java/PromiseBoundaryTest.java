@@ -58,14 +58,20 @@ public final class PromiseBoundaryTest {
     private static void testPromises9To14() {
         Check.sentence("9: the entry with the least key that is at least key",
                 PromiseBoundaryTest::seekToAnEntry);
-        Check.sentence("9: or to the end if there is none. (the number of entries for the end)",
+        Check.sentence("9: or to the end if there is none",
                 PromiseBoundaryTest::seekToTheEnd);
+        Check.sentence("9: Answers its place (the number of entries for the end)",
+                PromiseBoundaryTest::seekToTheEndAnswersTheNumberOfEntries);
         Check.sentence("10: The cursor goes to the entry at the place (first and last)",
                 PromiseBoundaryTest::jumpToAnEntry);
         Check.sentence("10: or to the end if there is none",
                 PromiseBoundaryTest::jumpToTheEnd);
-        Check.sentence("11: or to the end. 0 if it is at the end",
+        Check.sentence("10: Answers 1 if it is at an entry then, else 0",
+                PromiseBoundaryTest::jumpTellsAnEntryFromTheEnd);
+        Check.sentence("11: or to the end",
                 PromiseBoundaryTest::nextFromTheLastEntry);
+        Check.sentence("11: Answers 1 if it is at an entry then, 0 if it is at the end",
+                PromiseBoundaryTest::nextTellsAnEntryFromTheEnd);
         Check.sentence("11: -1 if it was at the end before",
                 PromiseBoundaryTest::nextAtTheEnd);
         Check.sentence("12: from the end to the last one",
@@ -448,31 +454,43 @@ public final class PromiseBoundaryTest {
     private static void seekToTheEnd() {
         for (int key : new int[] {MIN, 0, MAX}) {
             RedBlackMap map = new RedBlackMap();
-            Check.due("empty, seek(" + key + ")", map.seek(key), 0);
+            map.seek(key);
             Maps.dueState("empty, seek(" + key + ")", map, new TreeMap<>(), 0);
         }
         for (int n : new int[] {1, 2, CAPACITY - 1, CAPACITY}) {
             for (int key : new int[] {n * 10 + 1, MAX}) {
                 RedBlackMap map = Maps.tens(n);
                 map.jump(0);
-                Check.due(n + " entries, seek(" + key + ")", map.seek(key), n);
+                map.seek(key);
                 Maps.dueState(n + " entries, seek(" + key + ")", map, Maps.tensEntries(n), n);
             }
         }
         RedBlackMap map = Maps.tens(5);
         map.jump(0);
         map.remove(50);
-        Check.due("the last key, removed", map.seek(50), 4);
+        map.seek(50);
         Maps.dueState("the last key, removed", map, Maps.tensEntries(4), 4);
+    }
+
+    private static void seekToTheEndAnswersTheNumberOfEntries() {
+        for (int n = 0; n <= CAPACITY; n++) {
+            RedBlackMap map = Maps.tens(n);
+            Check.due(n + " entries, just above the last", map.seek(n * 10 + 1), n);
+            Check.due(n + " entries, the greatest int", map.seek(MAX), n);
+            map.jump(0);
+            Check.due(n + " entries, from the first", map.seek(MAX), n);
+            map.remove(n * 10);
+            Check.due("the last of " + n + ", removed", map.seek(n * 10), n == 0 ? 0 : n - 1);
+        }
+        Check.due("empty, the least int", new RedBlackMap().seek(MIN), 0);
     }
 
     private static void jumpToAnEntry() {
         for (int n : new int[] {1, 2, CAPACITY - 1, CAPACITY}) {
             for (int place : new int[] {0, n / 2, n - 1}) {
                 RedBlackMap map = Maps.tens(n);
+                map.jump(place);
                 String when = n + " entries, jump(" + place + ")";
-                Check.due(when, map.jump(place), 1);
-                Check.due(when + " again", map.jump(place), 1);
                 Maps.dueState(when, map, Maps.tensEntries(n), place);
             }
         }
@@ -480,37 +498,70 @@ public final class PromiseBoundaryTest {
 
     private static void jumpToTheEnd() {
         for (int n : new int[] {0, 1, 2, CAPACITY - 1, CAPACITY}) {
-            for (int place : new int[] {n, n + 1, 48, 49, 1000, MAX - 1, MAX, -1, -2, -48, MIN}) {
+            for (int place : placesOfNone(n)) {
                 RedBlackMap map = Maps.tens(n);
                 map.jump(0);
+                map.jump(place);
                 String when = n + " entries, jump(" + place + ")";
-                Check.due(when, map.jump(place), 0);
-                Check.due(when + " again", map.jump(place), 0);
                 Maps.dueState(when, map, Maps.tensEntries(n), n);
             }
         }
         RedBlackMap map = Maps.tens(5);
         map.jump(0);
         map.remove(50);
-        Check.due("a place that was the last one's", map.jump(4), 0);
+        map.jump(4);
         Maps.dueState("a place that was the last one's", map, Maps.tensEntries(4), 4);
+    }
+
+    private static void jumpTellsAnEntryFromTheEnd() {
+        for (int n = 0; n <= CAPACITY; n++) {
+            RedBlackMap map = Maps.tens(n);
+            for (int place = 0; place < n; place++) {
+                Check.due(n + " entries, jump(" + place + ")", map.jump(place), 1);
+            }
+            for (int place : placesOfNone(n)) {
+                Check.due(n + " entries, jump(" + place + ")", map.jump(place), 0);
+                Check.due(n + " entries, jump(" + place + ") again", map.jump(place), 0);
+            }
+            map.remove(n * 10);
+            Check.due("the place of the last of " + n + ", removed", map.jump(n - 1), 0);
+        }
+    }
+
+    private static int[] placesOfNone(int n) {
+        return new int[] {n, n + 1, 48, 49, 1000, MAX - 1, MAX, -1, -2, -48, MIN};
     }
 
     private static void nextFromTheLastEntry() {
         for (int n : new int[] {1, 2, CAPACITY - 1, CAPACITY}) {
+            RedBlackMap map = Maps.tens(n);
+            map.jump(n - 1);
+            map.next();
+            Maps.dueState(n + " entries, next() to the end", map, Maps.tensEntries(n), n);
+        }
+        RedBlackMap map = Maps.tens(3);
+        map.jump(1);
+        map.remove(30);
+        map.next();
+        Maps.dueState("from an entry that became the last", map, Maps.tensEntries(2), 2);
+    }
+
+    private static void nextTellsAnEntryFromTheEnd() {
+        for (int n = 1; n <= CAPACITY; n++) {
             RedBlackMap map = Maps.tens(n);
             map.jump(0);
             for (int place = 1; place < n; place++) {
                 Check.due(n + " entries, next() to place " + place, map.next(), 1);
             }
             Check.due(n + " entries, next() to the end", map.next(), 0);
-            Maps.dueState(n + " entries, next() to the end", map, Maps.tensEntries(n), n);
         }
         RedBlackMap map = Maps.tens(3);
         map.jump(1);
         map.remove(30);
         Check.due("next() from an entry that became the last", map.next(), 0);
-        Maps.dueState("from an entry that became the last", map, Maps.tensEntries(2), 2);
+        map.jump(1);
+        map.put(MAX, 1);
+        Check.due("next() from an entry that is the last no more", map.next(), 1);
     }
 
     private static void nextAtTheEnd() {
