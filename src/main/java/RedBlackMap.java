@@ -3,6 +3,8 @@
  *
  * The entries lie in two arrays in the order of their keys: at most 48 are held, so moving them
  * costs little, and the place of an entry is simply its index.
+ *
+ * Between calls 0 <= cursor <= size <= CAPACITY, which is why no index leaves its array.
  */
 public final class RedBlackMap {
     private static final int CAPACITY = 48;

@@ -11,7 +11,10 @@ import java.util.Set;
 import java.util.TreeSet;
 import java.util.regex.Pattern;
 
-/** The public face of the document, and those rules of LANGUAGE.md that a program can look at. */
+/**
+ * The public face of the document, and those rules of LANGUAGE.md that can be seen in the members
+ * and the words of the class; SourceRulesTest looks at its syntax.
+ */
 public final class LanguageTest {
     private static final Path SOURCE = Path.of("src/main/java/RedBlackMap.java");
 
@@ -72,7 +75,6 @@ public final class LanguageTest {
             Class<?> answer = method.getReturnType();
             Check.holds(name + " is private", Modifier.isPrivate(method.getModifiers()));
             Check.holds(name + " bears no public name", !publicNames.contains(name));
-            Check.holds(name + " takes at most seven parameters", method.getParameterCount() <= 7);
             Check.holds(name + " answers no array", !answer.isArray());
             Check.holds(name + " has plain types", (answer == void.class || TYPES.contains(answer))
                     && TYPES.containsAll(Arrays.asList(method.getParameterTypes())));
@@ -113,10 +115,6 @@ public final class LanguageTest {
         }
         for (String sign : List.of("->", "::", "\"", "@", "[][]")) {
             Check.holds("the source is without the sign " + sign, !source.contains(sign));
-        }
-        for (String line : source.split("\n")) {
-            Check.holds("an array is made in a field's initialiser alone: " + line,
-                    !line.matches(".*\\bnew\\b.*") || line.startsWith("    private final "));
         }
     }
 
