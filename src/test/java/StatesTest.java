@@ -2,8 +2,9 @@ import java.util.ArrayList;
 import java.util.List;
 
 /**
- * Every call in every small state, and in states with 45 to 48 entries: its answer and the whole
- * state behind it are held against the model.
+ * Each method, with arguments at and around the keys, with each set of five keys held and the cursor
+ * at each place, and in chosen states of 45 to 48 entries: its answer and the whole state behind it
+ * are held against the model.
  */
 public final class StatesTest {
     private static final int MIN = Maps.MIN;
